@@ -108,20 +108,21 @@ public final class WetPrints {
   public int least(int g, int i) {
     if (!within(g, 1, MOST_HOURS) || i < NONE) return refuseOrder(BAD);
     if (search.countLawful() == 0) return refuseOrder(NO);
-    search.seekLeast(g);
+    search.run(Search.LEAST, g, now.plan);
     return i == NONE ? search.bestSmear : blockOfBest(i);
   }
 
   public int nearest(int g, int i) {
     if (!within(g, 1, MOST_HOURS) || i < ORDER_SMEAR) return refuseOrder(BAD);
     if (search.countLawful() == 0) return refuseOrder(NO);
-    search.seekNearest(g, now.plan);
+    search.run(Search.NEAREST, g, now.plan);
     if (i == NONE) return search.bestHits;
     return i == ORDER_SMEAR ? search.bestSmear : blockOfBest(i);
   }
 
   public int sheets() {
-    return search.countSheets();
+    search.run(Search.UNLIKE, 1, now.plan);
+    return search.unlike.size;
   }
 
   // ---- by hand
@@ -670,11 +671,11 @@ public final class WetPrints {
 
   /** Goes through all LAWFUL ORDERS, the first (by BLOCKS) first. An ORDER is a long of nibbles. */
   private static final class Search {
-    private static final int LEAST = 0, NEAREST = 1, UNLIKE = 2;
+    static final int LEAST = 0, NEAREST = 1, UNLIKE = 2;
     private final Blocks blocks;
     /** What has come of the ORDER under way. */
     private final Sheet sheet = new Sheet();
-    private final SheetSet unlike = new SheetSet();
+    final SheetSet unlike = new SheetSet();
     private final int[] ways = new int[1 << MOST_BLOCKS];
     private int goal = LEAST, gap = 1;
     private long plan = 0;
@@ -703,26 +704,12 @@ public final class WetPrints {
       return sum;
     }
 
-    void seekLeast(int g) {
-      gap = g;
-      run(LEAST);
-    }
-
-    void seekNearest(int g, long wanted) {
-      gap = g;
-      plan = wanted;
-      run(NEAREST);
-    }
-
-    int countSheets() {
-      unlike.empty();
-      run(UNLIKE);
-      return unlike.size;
-    }
-
-    private void run(int aim) {
+    void run(int aim, int hoursBetween, long wanted) {
       goal = aim;
+      gap = hoursBetween;
+      plan = wanted;
       found = false;
+      unlike.empty();
       sheet.wipe();
       extend(this, 0, 0, 0, 0);
     }
