@@ -177,6 +177,14 @@ public final class BlocksTest {
     fits(full, "all cells are others", -3, -3, -1);
     for (int c = 0; c < 16; c++) full.plans(c, 7);
     fits(full, "all cells are its own", 0, 0, 16);
+    WetPrints corner = new WetPrints();
+    corner.block(0, 7, 0, 1);
+    corner.plans(15, 7);
+    fits(corner, "as far on as can be", 3, 3, 1);
+    WetPrints other = new WetPrints();
+    other.block(0, 7, 0, 0x8000);
+    other.plans(0, 7);
+    fits(other, "as far back as can be", -3, -3, 1);
   }
 
   private static void fits(WetPrints x, String how, int dx, int dy, int gain) {

@@ -6,6 +6,7 @@ public final class HandTest {
     solid();
     glaze();
     lacquer();
+    hits();
     resist();
     smear();
     placeThen();
@@ -83,6 +84,22 @@ public final class HandTest {
     handIs(x, "lacquer", 0, 11, 0, 16, 0, 2, 0);
   }
 
+  /** Each COLOUR and each SHINE is told from 0, and from each other. */
+  private static void hits() {
+    for (int colour = 1; colour <= 7; colour++) {
+      WetPrints x = new WetPrints();
+      x.block(0, colour, 0, 0x0240);
+      x.block(2, colour, 0, 0x0240);
+      x.prints(0, 0);
+      for (int i = 0; i < colour; i++) x.prints(1, 0);
+      check.due("hand(5): shine " + colour, x.hand(5), 2);
+      for (int plan = 0; plan <= 7; plan++) {
+        x.plans(6, plan);
+        check.due("hand(3): " + colour + " where the plan has " + plan, x.hand(3), plan == colour ? 15 : 14);
+      }
+    }
+  }
+
   private static void resist() {
     WetPrints x = new WetPrints();
     x.block(3, 4, 2, 0x0003);
@@ -155,6 +172,15 @@ public final class HandTest {
     x.behind(0, 2, 0);
     check.due("prints(0, 0): told no more", x.prints(0, 9), 0);
     check.due("hand(0)", x.hand(0), 9);
+    for (int b = 0; b < 6; b++) {
+      WetPrints y = new WetPrints();
+      for (int k = 0; k < 6; k++) y.block(0, 1, 0, 1);
+      y.behind((b + 1) % 6, b, 1);
+      for (int k = 0; k < 6; k++) if (k != b && k != (b + 1) % 6) y.prints(k, 0);
+      check.due("prints behind " + b + " that was not", y.prints((b + 1) % 6, 0), WetPrints.NO);
+      y.prints(b, 0);
+      check.due("prints behind " + b + " that was", y.prints((b + 1) % 6, 0), 0);
+    }
   }
 
   private static void full() {
@@ -191,6 +217,17 @@ public final class HandTest {
     check.due("told(4): the blocks stay", x.told(4), 3);
     check.due("back()", x.back(), 4);
     handIs(x, "behind back", 3, 3, 0, 13, 12, 4, 4);
+    x.prints(2, 0);
+    check.due("hand(2)", x.hand(2), 36);
+    x.news();
+    check.due("hand(2): none on a new sheet", x.hand(2), 0);
+    x.shifts(1, 1, 1);
+    x.prints(1, 7);
+    for (int i = 0; i < 3; i++) x.back();
+    check.due("print(0, 0): as it was ahead of news()", x.print(0, 0), 0);
+    check.due("print(0, 1): as it was ahead of news()", x.print(0, 1), 1);
+    check.due("print(0, 2): as it was ahead of news()", x.print(0, 2), 0x000F);
+    check.due("hand(2): as it was ahead of news()", x.hand(2), 36);
   }
 
   private static void print() {

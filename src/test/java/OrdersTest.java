@@ -171,6 +171,13 @@ public final class OrdersTest {
     y.block(1, 2, 0, 4);
     // 7, 1, 2: 3; 7, 2, 1: 2; 1, 7, 2: 3; 1, 2, 7: 2; 2, 7, 1: 2; 2, 1, 7: 2
     check.due("sheets(): glazes that do not", y.sheets(), 2);
+    for (int c = 0; c < 15; c++) {
+      WetPrints z = new WetPrints();
+      z.block(3, 1, 0, 1 << c);
+      z.block(0, 2, 0, 1 << (c + 1));
+      z.block(0, 3, 0, 1 << (c + 1));
+      check.due("sheets(): a colour beside the closed cell " + c, z.sheets(), 2);
+    }
   }
 
   private static void manySheets() {

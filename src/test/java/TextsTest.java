@@ -138,6 +138,13 @@ public final class TextsTest {
     for (int what = 0; what <= 2; what++) check.due("told(" + what + "): nothing counts", x.told(what), 0);
     x.type(';');
     check.due("reads(): once it is whole", x.reads(), 4);
+    check.due("an empty text behind a whole one", Check.readsOf(x, ""), -10);
+    String[] broken = {"s0 -", "s0 -1", "p12345", "b0 1", "p 0 0", "n"};
+    for (String text : broken) {
+      check.due("reads() of '" + text + "'", Check.readsOf(x, text), -10 - text.length());
+      check.due("a whole text behind it", Check.readsOf(x, "s0 1 1;p0 1;"), 2);
+      check.due("of(0, 5)", x.of(0, 5), 4);
+    }
   }
 
   private static void back() {
