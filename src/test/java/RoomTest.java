@@ -28,7 +28,7 @@ public final class RoomTest {
   /** Every call, and the dear ones with as much as they can have. */
   private static void calls(WetPrints x) {
     for (int k = 0; k < 7; k++) sum += x.block(k % 4, k + 1, 9, 65535 - k);
-    for (int i = 0; i < 40; i++) {
+    for (int i = 0; i < 22; i++) {
       sum += x.shifts(i % 6, i % 7 - 3, i % 5 - 2) + x.behind(i % 6, i % 5, i % 2) + x.behind(i % 6, i % 5, 0);
       sum += x.plans(i % 17, i % 8) + x.of(i % 6, i % 8) + x.common(i % 6, i % 5, i % 2) + x.fit(i % 6, i % 3);
       sum += x.lawful() + x.least(i % 10, i % 7 - 1) + x.nearest(i % 10, i % 7 - 2) + x.sheets();
