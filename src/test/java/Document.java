@@ -9,7 +9,6 @@ import java.util.Map;
 /** The document's own words, so that a test names the sentence that it is about, and none is left unnamed. */
 final class Document {
   private static final Path FILE = Path.of("../shared/DOC.md");
-  private static final String INTERFACE = "Ahead of the calls";
 
   private final Map<String, StringBuilder> parts = new LinkedHashMap<>();
   /** Of each part: whether a test has named the sign at this place. */
@@ -24,7 +23,7 @@ final class Document {
       if (line.startsWith("## ")) {
         part = new StringBuilder();
         parts.put(line.substring(3).replaceFirst("^(Promise \\d+):.*", "$1"), part);
-      } else if (!line.startsWith("```") && !line.startsWith(INTERFACE)) {
+      } else if (!line.startsWith("```")) {
         // the call itself stands ahead of what a promise says of it
         part.append(line.replaceFirst("^`[^`]*`: ", "").strip()).append(' ');
       }
@@ -45,11 +44,10 @@ final class Document {
     return true;
   }
 
-  /** The words of the Terms and of the Promises that no test has named. */
+  /** The words, from the first part to the last, that no test has named. */
   List<String> notNamed() {
     List<String> left = new ArrayList<>();
     parts.forEach((part, words) -> {
-      if (!part.equals("Terms") && !part.startsWith("Promise ")) return;
       StringBuilder rest = new StringBuilder();
       for (int i = 0; i < words.length(); i++) rest.append(named.get(part)[i] ? '\n' : words.charAt(i));
       for (String run : rest.toString().split("\n")) {

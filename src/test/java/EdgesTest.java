@@ -6,6 +6,7 @@ public final class EdgesTest {
     Check check = new Check("EdgesTest");
     Document document = new Document();
     Edge edge = new Edge(check, document);
+    new WholeEdges(edge).all();
     new SheetEdges(edge).all();
     new PlanEdges(edge).all();
     new TextEdges(edge).all();
